@@ -250,6 +250,7 @@ public final class PromiseTest {
         dueFault("wo rd5a;", 1, 0);
         dueFault("word 1 2 a;", 1, 7);
         dueName("word 5 word;", 5, "word");
+        dueName("for 5 to 5 by 2:zz az;", 5, "zz az");
     }
 
     private static void fault() {
@@ -359,9 +360,12 @@ public final class PromiseTest {
         due("its last", told(fives).name(0, 5, 59), 'h');
         due("60 letters and blanks", told(fives).letters(0, 5), 56);
         due("61 bytes", told(fives).name(0, 7, NONE), NONE);
-        String whole = twelve + "for 3 to 3 by 2:#r#r#r#r abcdefgh;for 6 to 6 by 2:#q;for 7 to 7 by 2:#q a;";
+        String whole = twelve + "for 3 to 3 by 2:#r#r#r#r abcdefgh;for 6 to 6 by 2:#q;for 7 to 7 by 2:#q a;"
+                + "for 10 to 10 by 3:#q #r;for 9 to 9 by 2:#r#r#r#r#r;";
         due("a part of 60 bytes alone", told(whole).name(0, 6, NONE), 60);
         due("a part of 60 bytes and a letter", told(whole).name(0, 7, NONE), NONE);
+        due("a part of 60 bytes and another", told(whole).name(0, 10, NONE), NONE);
+        due("five parts of twelve bytes", told(whole).name(0, 9, NONE), NONE);
         String gap = twelve + "for 5 to 5 by 2:#r#r#r#r abcdefg;for 10 to 10 by 2:#q a;for 11 to 11 by 2:#q;";
         due("59 bytes", told(gap).name(0, 5, NONE), 59);
         due("59 bytes as a part", told(gap).name(0, 11, NONE), 59);
@@ -404,6 +408,14 @@ public final class PromiseTest {
         due("the deeper part", told("word1a;word2b;for 3 to 3 by 2:x;for 4 to 9 by 3:#q[#r]#t;").deep(0, 4), 2);
         due("a part that comes later",
                 told("word9x;for 1 to 1 by 5:#n;for 5 to 5 by 9:#n;").deep(0, 1), 3);
+        // Each asks for the next greater one: 1 is eight deep, and nine if 8 asks for 9.
+        StringBuilder up = new StringBuilder();
+        for (int n = 1; n <= 7; n++) {
+            up.append("for ").append(n).append(" to ").append(n).append(" by ").append(n + 1).append(":#n;");
+        }
+        due("up to a word", told(up + "word8x;").deep(0, 1), 8);
+        due("up too far", told(up + "for 8 to 8 by 9:#n;word9x;").deep(0, 1), NONE);
+        due("up, from 2 on", told(up + "for 8 to 8 by 9:#n;word9x;").deep(0, 2), 8);
         due("no name", x.deep(0, 0), NONE);
         due("tongue -1", x.deep(-1, 3), UNKNOWN);
         due("number 1000", x.deep(0, 1000), UNKNOWN);
@@ -645,6 +657,8 @@ public final class PromiseTest {
         due("into the round", y.chain(0, 9, 0), 4);
         due("into the round, last", y.chain(0, 9, 1), 3);
         due("into the round, again", y.chain(0, 9, 2), 1);
+        due("down to 0", told(EMPTY_OR_A).chain(0, 500, 0), 2);
+        due("0 again", told(EMPTY_OR_A).chain(0, 500, 2), 0);
     }
 
     private static void honest() {

@@ -1,0 +1,235 @@
+import java.util.Random;
+
+/** Runs of random calls on NumberWords and on the plain model: both must answer alike. */
+public final class ModelTest {
+    private static final int RUNS = 400;
+    private static final int CALLS = 120;
+    private static final int TEXTS = 60000;
+    private static final String[] WORDS = {
+        "a", "b", "ab", "ba", "one", "two", "ten", "and", "twenty", "for", "word", "to", "by", "q", "r",
+        "hundred", "abcdefghijkl", "z"
+    };
+    private static final String SIGNS = "abqrtcnz019#[];: ?.\u00ff";
+
+    private static final Checks CHECKS = new Checks();
+
+    private final Random random;
+    private final NumberWords x = new NumberWords();
+    private final Model model = new Model();
+    private final StringBuilder told = new StringBuilder();
+
+    private ModelTest(long seed) {
+        random = new Random(seed);
+    }
+
+    public static void main(String[] args) {
+        for (int i = 0; i < TEXTS; i++) {
+            new ModelTest(i).readOneText();
+        }
+        for (int i = 0; i < RUNS; i++) {
+            new ModelTest(1000000L + i).run();
+        }
+        CHECKS.end();
+    }
+
+    private void due(String call, int got, int want) {
+        told.append(call).append(' ');
+        CHECKS.due(got == want ? call : told.toString(), got, want);
+    }
+
+    /** Many texts with few faults each, looked at by their faults alone. */
+    private void readOneText() {
+        String text = spoiled(text());
+        feedBoth(text);
+        Model plain = model;
+        due("read of " + text, x.read(0), plain.read(0));
+        due("fault of " + text, x.fault(), plain.fault());
+        due("names of " + text, x.about(0, 1), plain.about(0, 1));
+    }
+
+    private void run() {
+        for (int tongue = 0; tongue < 3; tongue++) {
+            readBoth(tongue, text());
+        }
+        for (int i = 0; i < CALLS; i++) {
+            if (random.nextInt(40) == 0) {
+                readBoth(random.nextInt(3), random.nextInt(3) == 0 ? spoiled(text()) : text());
+            }
+            if (random.nextInt(12) == 0) {
+                draftBoth();
+            }
+            callBoth();
+        }
+    }
+
+    // ---- texts
+
+    private String gap() {
+        return random.nextInt(3) == 0 ? " ".repeat(1 + random.nextInt(2)) : "";
+    }
+
+    private String letters() {
+        return WORDS[random.nextInt(WORDS.length)];
+    }
+
+    private String part() {
+        if (random.nextInt(2) == 0) {
+            return "#" + "qtrcn".charAt(random.nextInt(5)) + gap();
+        }
+        return letters() + " " + gap();
+    }
+
+    private String clause(int kindOfTongue) {
+        if (random.nextInt(5) < 3) {
+            int n = random.nextInt(kindOfTongue == 0 ? 13 : 1 + random.nextInt(1000));
+            return "word" + gap() + n + gap() + letters() + gap() + ";";
+        }
+        int a = random.nextInt(kindOfTongue == 0 ? 20 : 1 + random.nextInt(1000));
+        int b = random.nextInt(3) == 0 ? 999 : a + random.nextInt(1000 - a);
+        int u = 2 + random.nextInt(random.nextInt(3) == 0 ? 499 : 19);
+        StringBuilder clause = new StringBuilder("for" + gap() + a + gap() + "to" + gap() + b);
+        clause.append(gap()).append("by").append(gap()).append(u).append(gap()).append(':').append(gap());
+        int parts = 1 + random.nextInt(random.nextInt(6) == 0 ? 8 : 3);
+        for (int i = 0; i < parts; i++) {
+            boolean bracketed = random.nextInt(3) == 0;
+            clause.append(bracketed ? "[" + part() : part());
+            if (bracketed && i + 1 < parts && random.nextInt(2) == 0) {
+                clause.append(part());
+                i++;
+            }
+            clause.append(bracketed ? "]" + gap() : "");
+        }
+        return clause.append(';').toString();
+    }
+
+    private String text() {
+        StringBuilder text = new StringBuilder(gap());
+        int kind = random.nextInt(3);
+        if (kind == 2) {
+            text.append("word0a;word1ab;word2abc;word3b;");
+        }
+        int clauses = 1 + random.nextInt(12);
+        for (int i = 0; i < clauses; i++) {
+            String clause = clause(kind);
+            if (text.length() + clause.length() <= 240) {
+                text.append(clause).append(text.length() + clause.length() < 238 ? gap() : "");
+            }
+        }
+        return text.toString();
+    }
+
+    /** The text with a byte or two put in, taken out or changed; now and then cut off. */
+    private String spoiled(String text) {
+        StringBuilder spoiled = new StringBuilder(text);
+        int times = random.nextInt(3);
+        for (int i = 0; i < times && spoiled.length() > 0; i++) {
+            int at = random.nextInt(spoiled.length());
+            char c = SIGNS.charAt(random.nextInt(SIGNS.length()));
+            switch (random.nextInt(5)) {
+                case 0 -> spoiled.setCharAt(at, c);
+                case 1 -> spoiled.deleteCharAt(at);
+                case 2 -> spoiled.insert(at, c);
+                case 3 -> spoiled.insert(at, spoiled.substring(at / 2, at));
+                default -> spoiled.setLength(random.nextInt(4) == 0 ? at : spoiled.length());
+            }
+        }
+        return spoiled.length() > 240 ? spoiled.substring(0, 240) : spoiled.toString();
+    }
+
+    private void feedBoth(String text) {
+        for (int from = 0; from < text.length(); ) {
+            int n = Math.min(1 + random.nextInt(8), text.length() - from);
+            long bytes = random.nextLong();
+            for (int i = from; i < from + n; i++) {
+                bytes = bytes << 8 | text.charAt(i);
+            }
+            due("feed", x.feed(n, bytes), model.feed(n, bytes));
+            from += n;
+        }
+    }
+
+    private void readBoth(int tongue, String text) {
+        feedBoth(text);
+        due("read(" + tongue + ") of " + text, x.read(tongue), model.read(tongue));
+        due("fault()", x.fault(), model.fault());
+    }
+
+    // ---- calls
+
+    private void draftBoth() {
+        due("clear()", x.clear(), model.clear());
+        String draft = "";
+        int tongue = random.nextInt(3);
+        int size = -1;
+        for (int i = 0; i < 20 && size < 0; i++) {
+            int n = random.nextInt(random.nextInt(2) == 0 ? 1000 : 20);
+            size = model.name(tongue, n, -1);
+            draft = size < 0 ? "" : Checks.nameText(x, tongue, n);
+        }
+        StringBuilder heard = new StringBuilder(draft);
+        int times = random.nextInt(3) == 0 ? random.nextInt(5) : 0;
+        for (int i = 0; i < times; i++) {
+            heard.insert(random.nextInt(heard.length() + 1), "ab eo".charAt(random.nextInt(5)));
+        }
+        for (int i = 0; i < heard.length(); i++) {
+            due("write(" + heard.charAt(i) + ")", x.write(heard.charAt(i)), model.write(heard.charAt(i)));
+        }
+    }
+
+    private int tongue() {
+        return random.nextInt(25) == 0 ? random.nextInt(8) - 3 : random.nextInt(3);
+    }
+
+    private int number() {
+        if (random.nextInt(30) == 0) {
+            return random.nextInt(2) == 0 ? -1 - random.nextInt(3) : 1000 + random.nextInt(3);
+        }
+        return random.nextInt(random.nextInt(2) == 0 ? 30 : 1000);
+    }
+
+    private int upTo(int most) {
+        return random.nextInt(20) == 0 ? random.nextInt(2) * (most + 2) - 1 : random.nextInt(most + 1);
+    }
+
+    private void callBoth() {
+        int t = tongue();
+        int n = number();
+        int m = number();
+        int i = upTo(random.nextInt(2) == 0 ? 5 : 60);
+        String at = "(" + t + ", " + n + ", " + m + ", " + i + ")";
+        switch (random.nextInt(22)) {
+            case 0 -> due("about" + at, x.about(t, i % 8), model.about(t, i % 8));
+            case 1 -> due("name" + at, x.name(t, n, i), model.name(t, n, i));
+            case 2 -> due("letters" + at, x.letters(t, n), model.letters(t, n));
+            case 3 -> due("by" + at, x.by(t, n), model.by(t, n));
+            case 4 -> due("deep" + at, x.deep(t, n), model.deep(t, n));
+            case 5 -> due("uses" + at, x.uses(t, i % 27, n, m), model.uses(t, i % 27, n, m));
+            case 6 -> due("first" + at, x.first(t, i % 27), model.first(t, i % 27));
+            case 7 -> due("song" + at, x.song(t, n, m), model.song(t, n, m));
+            case 8 -> due("order" + at, x.order(t, n), model.order(t, n));
+            case 9 -> due("place" + at, x.place(t, n), model.place(t, n));
+            case 10 -> due("twins" + at, x.twins(t, i % 4), model.twins(t, i % 4));
+            case 11 -> due("find false" + at, x.find(t, false, i % 4 - 1), model.find(t, false, i % 4 - 1));
+            case 12 -> due("find true" + at, x.find(t, true, i % 4 - 1), model.find(t, true, i % 4 - 1));
+            case 13 -> due("nearest" + at, x.nearest(t, i % 3), model.nearest(t, i % 3));
+            case 14 -> due("led" + at, x.led(t, tongueOf(m), i), model.led(t, tongueOf(m), i));
+            case 15 -> due("chain" + at, x.chain(t, n, i % 4), model.chain(t, n, i % 4));
+            case 16 -> due("honest" + at, x.honest(t, i % 7), model.honest(t, i % 7));
+            case 17 -> due("far" + at, x.far(t, n, m), model.far(t, n, m));
+            case 18 -> due("mixed" + at, x.mixed(t, i % 11, n, n + m % 63), model.mixed(t, i % 11, n, n + m % 63));
+            case 19 -> due("squares" + at, x.squares(t, n), model.squares(t, n));
+            default -> squareBoth(t, n);
+        }
+    }
+
+    private static int tongueOf(int m) {
+        return Math.floorMod(m, 3);
+    }
+
+    private void squareBoth(int t, int m) {
+        int u = random.nextInt(random.nextInt(10) == 0 ? 2010 : 20) - (random.nextInt(2) == 0 ? 1005 : 10);
+        int v = random.nextInt(20) - 10;
+        due("square(" + t + ", " + m + ", " + u + ", " + v + ")", x.square(t, m, u, v), model.square(t, m, u, v));
+        due("square turned", x.square(t, m, v, u), model.square(t, m, v, u));
+    }
+}
