@@ -25,6 +25,7 @@ public final class NumberWords {
     private final Namer namer;
     private final Sorter sorter;
     private final Line draft;
+    private final Line draftRun;
     private final Spellings draftKey;
     private final Distance distance;
     private final Square cells;
@@ -37,9 +38,10 @@ public final class NumberWords {
         for (int i = 0; i < TONGUES; i++) {
             tongues[i] = new Tongue();
         }
-        namer = new Namer(text, clauses);
+        namer = new Namer(clauses);
         sorter = new Sorter();
         draft = new Line();
+        draftRun = new Line();
         draftKey = new Spellings(1);
         distance = new Distance();
         cells = new Square();
@@ -213,12 +215,19 @@ public final class NumberWords {
         if (c != ' ' && (c < 'a' || c > 'z')) {
             return OUTSIDE;
         }
-        return draft.append(c) ? draft.size() : FULL;
+        if (!draft.append(Line.signOf(c), 1)) {
+            return FULL;
+        }
+        if (c != ' ') {
+            draftRun.append(Line.signOf(c), 1);
+        }
+        return draft.size();
     }
 
     public int clear() {
         int had = draft.size();
         draft.empty();
+        draftRun.empty();
         return had;
     }
 
@@ -226,7 +235,7 @@ public final class NumberWords {
         if (!isTongue(tongue)) {
             return UNKNOWN;
         }
-        draftKey.put(0, draft, !run);
+        draftKey.put(0, run ? draftRun : draft);
         if (i != NONE) {
             return tongues[tongue].reading(draftKey, run, i);
         }
@@ -240,7 +249,7 @@ public final class NumberWords {
         if (what != 0 && what != 1) {
             return OUTSIDE;
         }
-        draftKey.put(0, draft, false);
+        draftKey.put(0, draftRun);
         distance.from(draftKey, 0);
         Tongue told = tongues[tongue];
         int best = NONE;
@@ -262,7 +271,7 @@ public final class NumberWords {
         if (!isTongue(a) || !isTongue(b)) {
             return UNKNOWN;
         }
-        draftKey.put(0, draft, true);
+        draftKey.put(0, draft);
         int n = tongues[a].reading(draftKey, false, 0);
         if (n == NONE || !tongues[b].has(n)) {
             return NOT;
@@ -471,11 +480,11 @@ public final class NumberWords {
         private final int[] to = new int[MOST];
         private final int[] unit = new int[MOST];
         private final int[] parts = new int[MOST];
-        // Of each part, eight to a clause: LETTERS or the letter behind '#'; where its letters stand.
+        // Of each part, eight to a clause: LETTERS or the letter behind '#'; its letters as signs.
         private final int[] kind = new int[MOST * MOST_PARTS];
         private final boolean[] bracketed = new boolean[MOST * MOST_PARTS];
-        private final int[] start = new int[MOST * MOST_PARTS];
-        private final int[] end = new int[MOST * MOST_PARTS];
+        private final long[] signs = new long[MOST * MOST_PARTS];
+        private final int[] signCount = new int[MOST * MOST_PARTS];
 
         void empty() {
             count = 0;
@@ -517,13 +526,13 @@ public final class NumberWords {
             return count == 0 ? 0 : parts[count - 1];
         }
 
-        void addPart(int partKind, boolean inBrackets, int letterStart, int letterEnd) {
+        void addPart(int partKind, boolean inBrackets, long letters, int letterCount) {
             if (count > 0 && parts[count - 1] < MOST_PARTS) {
                 int part = (count - 1) * MOST_PARTS + parts[count - 1];
                 kind[part] = partKind;
                 bracketed[part] = inBrackets;
-                start[part] = letterStart;
-                end[part] = letterEnd;
+                signs[part] = letters;
+                signCount[part] = letterCount;
                 parts[count - 1]++;
             }
         }
@@ -667,7 +676,7 @@ public final class NumberWords {
             if (c != 'q' && c != 't' && c != 'r' && c != 'c' && c != 'n') {
                 return fail(CANNOT_STAND, place);
             }
-            clauses.addPart(c, inBrackets, place, place);
+            clauses.addPart(c, inBrackets, 0, 0);
             text.moveTo(place + 1);
             return true;
         }
@@ -681,9 +690,17 @@ public final class NumberWords {
             if (end - start > WORD_MOST) {
                 return fail(LONG_WORD, start + WORD_MOST);
             }
-            clauses.addPart(Clauses.LETTERS, inBrackets, start, end);
+            clauses.addPart(Clauses.LETTERS, inBrackets, signsOf(start, end), end - start);
             text.moveTo(end);
             return true;
+        }
+
+        private long signsOf(int start, int end) {
+            long signs = 0;
+            for (int i = start; i < end; i++) {
+                signs |= Line.signOf(text.byteAt(i)) >>> Line.BITS * (i - start);
+            }
+            return signs;
         }
 
         private boolean parseKeyword(String word) {
@@ -732,20 +749,41 @@ public final class NumberWords {
         }
     }
 
-    /** Up to sixty bytes, letters and blanks: THE DRAFT, or a NAME that is being made. */
+    /**
+     * Up to sixty signs, letters and blanks: THE DRAFT, or a NAME that is being made. Twelve signs
+     * stand in a long, the first one highest, so that a line takes a twelfth of the room and whole
+     * words are put behind it at once. The signs are in the order of NAMES: 0 is the end, 1 a blank,
+     * 2 and on the letters; so lines are compared by their longs.
+     */
     private static final class Line {
-        private final byte[] bytes = new byte[MOST_BYTES];
+        private static final int SIGNS = 12;
+        private static final int LONGS = MOST_BYTES / SIGNS;
+        private static final int BITS = 5;
+        private static final int MASK = 31;
+        private static final int ALL_BITS = BITS * SIGNS;
+        private static final int TOP = ALL_BITS - BITS;
+        private static final long FULL_LONG = (1L << ALL_BITS) - 1;
+        private static final int BLANK = 1;
+        private static final int BEFORE_A = 'a' - BLANK - 1;
+
+        private final long[] packed = new long[LONGS];
         private int size;
 
-        boolean append(int c) {
-            if (size >= MOST_BYTES) {
-                return false;
-            }
-            bytes[size++] = (byte) c;
-            return true;
+        /** A letter or a blank as the first sign of a long. */
+        static long signOf(int c) {
+            return (long) (c == ' ' ? BLANK : c - BEFORE_A) << TOP;
+        }
+
+        static int signIn(long signs, int shift) {
+            return (int) (signs >>> shift) & MASK;
+        }
+
+        static int byteOf(int sign) {
+            return sign == BLANK ? ' ' : sign + BEFORE_A;
         }
 
         void empty() {
+            Arrays.fill(packed, 0);
             size = 0;
         }
 
@@ -753,77 +791,70 @@ public final class NumberWords {
             return size;
         }
 
-        int byteAt(int i) {
-            return i >= 0 && i < size ? bytes[i] : NONE;
+        long signs(int i) {
+            return i >= 0 && i < LONGS ? packed[i] : 0;
+        }
+
+        /** Puts the first signs of a long, 1 to 12, behind the line; false: it has no room for them. */
+        boolean append(long signs, int count) {
+            if (count < 1 || size + count > MOST_BYTES) {
+                return false;
+            }
+            int i = size / SIGNS;
+            int used = BITS * (size % SIGNS);
+            packed[i] |= signs >>> used;
+            if (i + 1 < LONGS) {
+                packed[i + 1] |= (signs << (ALL_BITS - used)) & FULL_LONG;
+            }
+            size += count;
+            return true;
+        }
+
+        boolean appendRow(Spellings rows, int row, int count) {
+            for (int i = 0; i < LONGS && i * SIGNS < count; i++) {
+                if (!append(rows.signs(row, i), Math.min(count - i * SIGNS, SIGNS))) {
+                    return false;
+                }
+            }
+            return true;
         }
     }
 
-    /**
-     * Rows of up to sixty letters and blanks, twelve signs to a long: a row is a twelfth of the room,
-     * and two rows are compared by five numbers. The signs are in the order of NAMES: 0 is the end,
-     * 1 a blank, 2 and on the letters.
-     */
+    /** Lines that are kept, each in a row of its own. */
     private static final class Spellings {
-        private static final int SIGNS = 12;
-        private static final int LONGS = MOST_BYTES / SIGNS;
-        private static final int BITS = 5;
-        private static final int MASK = 31;
-        private static final int TOP = BITS * (SIGNS - 1);
-        private static final int BLANK = 1;
-        private static final int BEFORE_A = 'a' - BLANK - 1;
-
         private final long[] packed;
 
         Spellings(int rows) {
-            packed = new long[Math.max(0, rows) * LONGS];
+            packed = new long[Math.max(0, rows) * Line.LONGS];
         }
 
-        static int signOf(int c) {
-            return c == ' ' ? BLANK : c - BEFORE_A;
-        }
-
-        /** Puts a line into a row; answers how many signs the row has. */
-        int put(int row, Line line, boolean withBlanks) {
-            int start = row * LONGS;
-            if (start < 0 || start + LONGS > packed.length) {
-                return 0;
-            }
-            for (int i = start; i < start + LONGS; i++) {
-                packed[i] = 0;
-            }
-            int size = 0;
-            for (int i = 0; i < line.size(); i++) {
-                int c = line.byteAt(i);
-                if (withBlanks || c != ' ') {
-                    long sign = signOf(c);
-                    packed[start + size / SIGNS] |= sign << (TOP - BITS * (size % SIGNS));
-                    size++;
+        void put(int row, Line line) {
+            int start = row * Line.LONGS;
+            for (int i = 0; i < Line.LONGS; i++) {
+                if (start >= 0 && start + i < packed.length) {
+                    packed[start + i] = line.signs(i);
                 }
             }
-            return size;
         }
 
-        /** Twelve signs of a row at once; the first is the highest. */
+        /** Twelve signs of a row at once. */
         long signs(int row, int i) {
-            int at = row * LONGS + i;
+            int at = row * Line.LONGS + i;
             return at >= 0 && at < packed.length ? packed[at] : 0;
         }
 
-        static int signIn(long signs, int shift) {
-            return (int) (signs >>> shift) & MASK;
-        }
-
         int byteAt(int row, int i) {
-            int sign = signIn(signs(row, i / SIGNS), TOP - BITS * (i % SIGNS));
-            return sign == BLANK ? ' ' : sign + BEFORE_A;
+            long signs = signs(row, i / Line.SIGNS);
+            return Line.byteOf(Line.signIn(signs, Line.TOP - Line.BITS * (i % Line.SIGNS)));
         }
 
-        int count(int row, int sign) {
+        int count(int row, int c) {
+            int sign = Line.signIn(Line.signOf(c), Line.TOP);
             int found = 0;
-            for (int i = 0; i < LONGS; i++) {
+            for (int i = 0; i < Line.LONGS; i++) {
                 long signs = signs(row, i);
-                for (int shift = TOP; shift >= 0; shift -= BITS) {
-                    if (signIn(signs, shift) == sign) {
+                for (int shift = Line.TOP; shift >= 0; shift -= Line.BITS) {
+                    if (Line.signIn(signs, shift) == sign) {
                         found++;
                     }
                 }
@@ -832,7 +863,7 @@ public final class NumberWords {
         }
 
         int compare(int row, Spellings other, int otherRow) {
-            for (int i = 0; i < LONGS; i++) {
+            for (int i = 0; i < Line.LONGS; i++) {
                 int way = Long.compare(signs(row, i), other.signs(otherRow, i));
                 if (way != 0) {
                     return way;
@@ -877,10 +908,12 @@ public final class NumberWords {
             twinsKnown = false;
         }
 
-        void putName(int n, Line line, int clause, int depth) {
+        void putName(int n, Line name, Line run, int clause, int depth) {
             if (n >= 0 && n < sizes.length) {
-                sizes[n] = names.put(n, line, true);
-                letterCounts[n] = runs.put(n, line, false);
+                names.put(n, name);
+                runs.put(n, run);
+                sizes[n] = name.size();
+                letterCounts[n] = run.size();
                 depths[n] = depth;
                 clauseOf[n] = clause;
                 namedCount++;
@@ -942,7 +975,7 @@ public final class NumberWords {
         }
 
         int countOf(int c, int n) {
-            return has(n) ? names.count(n, Spellings.signOf(c)) : 0;
+            return has(n) ? names.count(n, c) : 0;
         }
 
         private boolean isHonest(int n) {
@@ -991,6 +1024,10 @@ public final class NumberWords {
                 }
             }
             return NONE;
+        }
+
+        boolean appendTo(Line name, Line run, int n) {
+            return name.appendRow(names, n, sizeOf(n)) && run.appendRow(runs, n, lettersOf(n));
         }
 
         void measureFrom(Distance distance, int n) {
@@ -1085,14 +1122,13 @@ public final class NumberWords {
     private static final class Namer {
         private static final int MOST_DEEP = 8;
 
-        private final Text text;
         private final Clauses clauses;
-        private final Line line = new Line();
+        private final Line name = new Line();
+        private final Line run = new Line();
         private final int[] chosen = new int[NUMBERS];
         private int deepestPart;
 
-        Namer(Text text, Clauses clauses) {
-            this.text = text;
+        Namer(Clauses clauses) {
             this.clauses = clauses;
         }
 
@@ -1108,7 +1144,7 @@ public final class NumberWords {
                 grew = false;
                 for (int n = 0; n < NUMBERS; n++) {
                     if (chosen[n] != NONE && !tongue.has(n) && spell(tongue, chosen[n], n)) {
-                        tongue.putName(n, line, chosen[n], deepestPart + 1);
+                        tongue.putName(n, name, run, chosen[n], deepestPart + 1);
                         grew = true;
                     }
                 }
@@ -1136,9 +1172,10 @@ public final class NumberWords {
             }
         }
 
-        /** Puts the NAME of n on the line; false: it has none, or not yet. */
+        /** Puts the NAME of n and its RUN on their lines; false: it has none, or not yet. */
         private boolean spell(Tongue tongue, int clause, int n) {
-            line.empty();
+            name.empty();
+            run.empty();
             deepestPart = 0;
             int unit = clauses.unit[clause];
             int rest = unit > 0 ? n % unit : 0;
@@ -1148,7 +1185,7 @@ public final class NumberWords {
                     continue;
                 }
                 boolean fits = clauses.kind[part] == Clauses.LETTERS
-                        ? addLetters(clauses.start[part], clauses.end[part])
+                        ? addLetters(clauses.signs[part], clauses.signCount[part])
                         : addName(tongue, asked(clauses.kind[part], n, rest, unit));
                 if (!fits) {
                     return false;
@@ -1175,16 +1212,8 @@ public final class NumberWords {
             }
         }
 
-        private boolean addLetters(int start, int end) {
-            if (!addGap()) {
-                return false;
-            }
-            for (int i = start; i < end; i++) {
-                if (!line.append(text.byteAt(i))) {
-                    return false;
-                }
-            }
-            return true;
+        private boolean addLetters(long signs, int count) {
+            return addGap() && name.append(signs, count) && run.append(signs, count);
         }
 
         private boolean addName(Tongue tongue, int n) {
@@ -1192,20 +1221,12 @@ public final class NumberWords {
                 return false;
             }
             deepestPart = Math.max(deepestPart, tongue.depthOf(n));
-            int size = tongue.sizeOf(n);
-            if (size > 0 && !addGap()) {
-                return false;
-            }
-            for (int i = 0; i < size; i++) {
-                if (!line.append(tongue.sizeOrByte(n, i))) {
-                    return false;
-                }
-            }
-            return true;
+            // A part of 0 bytes is left out, and no blank stands for it.
+            return tongue.sizeOf(n) == 0 || addGap() && tongue.appendTo(name, run, n);
         }
 
         private boolean addGap() {
-            return line.size() == 0 || line.append(' ');
+            return name.size() == 0 || name.append(Line.signOf(' '), 1);
         }
     }
 
@@ -1249,7 +1270,7 @@ public final class NumberWords {
      * most sixty letters, so it always fits.
      */
     private static final class Distance {
-        private final long[] places = new long[Spellings.MASK + 1];
+        private final long[] places = new long[Line.MASK + 1];
         private int size;
 
         int size() {
@@ -1259,10 +1280,10 @@ public final class NumberWords {
         void from(Spellings rows, int row) {
             Arrays.fill(places, 0);
             size = 0;
-            for (int i = 0; i < Spellings.LONGS; i++) {
+            for (int i = 0; i < Line.LONGS; i++) {
                 long signs = rows.signs(row, i);
-                for (int shift = Spellings.TOP; shift >= 0; shift -= Spellings.BITS) {
-                    int sign = Spellings.signIn(signs, shift);
+                for (int shift = Line.TOP; shift >= 0; shift -= Line.BITS) {
+                    int sign = Line.signIn(signs, shift);
                     if (sign == 0) {
                         return;
                     }
@@ -1277,10 +1298,10 @@ public final class NumberWords {
             long falls = 0;
             long bottom = size > 0 ? 1L << (size - 1) : 0;
             int far = size;
-            for (int i = 0; i < Spellings.LONGS; i++) {
+            for (int i = 0; i < Line.LONGS; i++) {
                 long signs = rows.signs(row, i);
-                for (int shift = Spellings.TOP; shift >= 0; shift -= Spellings.BITS) {
-                    int sign = Spellings.signIn(signs, shift);
+                for (int shift = Line.TOP; shift >= 0; shift -= Line.BITS) {
+                    int sign = Line.signIn(signs, shift);
                     if (sign == 0) {
                         return far;
                     }

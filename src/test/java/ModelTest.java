@@ -4,7 +4,12 @@ import java.util.Random;
 public final class ModelTest {
     private static final int RUNS = 400;
     private static final int CALLS = 120;
+    private static final int WILD_CALLS = 20;
     private static final int TEXTS = 60000;
+    private static final int[] WILD = {
+        Integer.MIN_VALUE, Integer.MIN_VALUE + 1, -1001, -1000, -999, -60, -2, -1, 0, 1, 2, 3, 7, 59, 60, 61,
+        239, 240, 256, 998, 999, 1000, 1001, Integer.MAX_VALUE - 1, Integer.MAX_VALUE
+    };
     private static final String[] WORDS = {
         "a", "b", "ab", "ba", "one", "two", "ten", "and", "twenty", "for", "word", "to", "by", "q", "r",
         "hundred", "abcdefghijkl", "z"
@@ -59,6 +64,9 @@ public final class ModelTest {
                 draftBoth();
             }
             callBoth();
+        }
+        for (int i = 0; i < WILD_CALLS; i++) {
+            wildBoth();
         }
     }
 
@@ -220,6 +228,49 @@ public final class ModelTest {
             case 19 -> due("squares" + at, x.squares(t, n), model.squares(t, n));
             default -> squareBoth(t, n);
         }
+    }
+
+    private int wild() {
+        return random.nextInt(2) == 0 ? random.nextInt(3) : WILD[random.nextInt(WILD.length)];
+    }
+
+    /** Arguments from all over, so that no index, shift or sum goes astray. */
+    private void wildBoth() {
+        int a = wild();
+        int b = wild();
+        int c = wild();
+        int d = wild();
+        String at = "(" + a + ", " + b + ", " + c + ", " + d + ")";
+        switch (random.nextInt(18)) {
+            case 0 -> due("feed" + at, x.feed(a, b), model.feed(a, b));
+            case 1 -> due("read" + at, x.read(a), model.read(a));
+            case 2 -> due("about" + at, x.about(a, b), model.about(a, b));
+            case 3 -> due("name" + at, x.name(a, b, c), model.name(a, b, c));
+            case 4 -> due("letters" + at, x.letters(a, b), model.letters(a, b));
+            case 5 -> due("by" + at, x.by(a, b), model.by(a, b));
+            case 6 -> due("deep" + at, x.deep(a, b), model.deep(a, b));
+            case 7 -> due("uses" + at, x.uses(a, b, c, d), model.uses(a, b, c, d));
+            case 8 -> due("first" + at, x.first(a, b), model.first(a, b));
+            case 9 -> due("song" + at, x.song(a, b, c), model.song(a, b, c));
+            case 10 -> due("order" + at, x.order(a, b), model.order(a, b));
+            case 11 -> due("place" + at, x.place(a, b), model.place(a, b));
+            case 12 -> due("write" + at, x.write(a), model.write(a));
+            case 13 -> due("find" + at, x.find(a, b > 0, c), model.find(a, b > 0, c));
+            case 14 -> due("led" + at, x.led(a, b, c), model.led(a, b, c));
+            case 15 -> due("chain" + at, x.chain(a, b, c), model.chain(a, b, c));
+            case 16 -> due("honest" + at, x.honest(a, b), model.honest(a, b));
+            default -> wildPairs(a, b, c, d);
+        }
+    }
+
+    private void wildPairs(int a, int b, int c, int d) {
+        String at = "(" + a + ", " + b + ", " + c + ", " + d + ")";
+        due("twins" + at, x.twins(a, b), model.twins(a, b));
+        due("nearest" + at, x.nearest(a, b), model.nearest(a, b));
+        due("far" + at, x.far(a, b, c), model.far(a, b, c));
+        due("mixed" + at, x.mixed(a, b, c, d), model.mixed(a, b, c, d));
+        due("square" + at, x.square(a, b, c, d), model.square(a, b, c, d));
+        due("squares" + at, x.squares(a, b), model.squares(a, b));
     }
 
     private static int tongueOf(int m) {

@@ -264,6 +264,18 @@ public final class PromiseTest {
         due("it does not count", x.fault(), 8);
         due("sound", x.read(0), 1);
         due("no fault", x.fault(), NONE);
+        due("a long text", Checks.readText(x, 0, "word 55 abc;for 1 to 22 by 2:abc;"), 2);
+        due("a short one ahead of what was there", Checks.readText(x, 0, "word 5"), -11);
+        due("its end", x.fault(), 6);
+        due("a long text", Checks.readText(x, 0, "word 5 abc;"), 1);
+        due("its letters are gone", Checks.readText(x, 0, "word 5 a"), -11);
+        due("its end", x.fault(), 8);
+        due("letters up to byte 240", Checks.readText(x, 0, times(" ", 232) + "word 5 a"), -11);
+        due("its end", x.fault(), 240);
+        due("figures up to byte 240", Checks.readText(x, 0, times(" ", 234) + "word 5"), -11);
+        due("its end", x.fault(), 240);
+        due("'#' at byte 239", Checks.readText(x, 0, times(" ", 224) + "for1to2by2: a #"), -11);
+        due("its end", x.fault(), 239);
         due("a fault at 0", Checks.readText(x, 0, "?"), -11);
         due("its byte is 0", x.fault(), 0);
     }
