@@ -873,34 +873,30 @@ public final class NumberWords {
         }
     }
 
-    /** The NAMES of one tongue. Its rows are made when a text is first read into it. */
+    /** The NAMES of one tongue. Its rows are made with it, and every text read into it uses them again. */
     private static final class Tongue {
         private int clauseCount;
         private int namedCount;
-        private Spellings names = new Spellings(0);
-        private Spellings runs = new Spellings(0);
-        private int[] sizes = new int[0];
-        private int[] letterCounts = new int[0];
-        private int[] depths = new int[0];
-        private int[] clauseOf = new int[0];
-        private int[] order = new int[0];
+        private final Spellings names = new Spellings(NUMBERS);
+        private final Spellings runs = new Spellings(NUMBERS);
+        private final int[] sizes = new int[NUMBERS];
+        private final int[] letterCounts = new int[NUMBERS];
+        private final int[] depths = new int[NUMBERS];
+        private final int[] clauseOf = new int[NUMBERS];
+        private final int[] order = new int[NUMBERS];
         private boolean isOrdered;
         private boolean twinsKnown;
         private int lesserTwin;
         private int greaterTwin;
         private int twinCount;
 
+        Tongue() {
+            // A new row holds sizes of 0, and those would be NAMES of 0 bytes.
+            restart(0);
+        }
+
         /** From now on it has this many clauses and, until they are put, no NAMES. */
         void restart(int clauses) {
-            if (sizes.length == 0) {
-                names = new Spellings(NUMBERS);
-                runs = new Spellings(NUMBERS);
-                sizes = new int[NUMBERS];
-                letterCounts = new int[NUMBERS];
-                depths = new int[NUMBERS];
-                clauseOf = new int[NUMBERS];
-                order = new int[NUMBERS];
-            }
             clauseCount = clauses;
             namedCount = 0;
             Arrays.fill(sizes, NONE);

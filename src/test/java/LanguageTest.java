@@ -31,6 +31,9 @@ public final class LanguageTest {
         "\\bhashCode\\b", "\\btoString\\b", "static \\{", "\\bimport (?!java\\.util\\.Arrays;)",
         "\\bSystem\\.(?!arraycopy\\()", "\\bMath\\.(?!max\\(|min\\(|abs\\()", "[^\\x00-\\x7f]"
     };
+    private static final Pattern CONSTRUCTOR = Pattern.compile("^(public |private )?[A-Z]\\w*\\(");
+    private static final Pattern MAKER = Pattern.compile(
+            "\\bnew\\b|=\\s*\\{|\\b(copyOf|copyOfRange|clone|substring|toCharArray|valueOf|values|of)\\(");
 
     private static final Checks CHECKS = new Checks();
 
@@ -43,7 +46,7 @@ public final class LanguageTest {
         }
         String source = Files.readString(SOURCE);
         words(source);
-        methodLengths(source);
+        methods(source);
         CHECKS.end();
     }
 
@@ -120,7 +123,7 @@ public final class LanguageTest {
     }
 
     /** Methods are told by their indent: a head at four or eight blanks, its end at the same. */
-    private static void methodLengths(String source) {
+    private static void methods(String source) {
         String[] lines = source.split("\n");
         for (int i = 0; i < lines.length; i++) {
             Matcher head = Pattern.compile("^( {4}| {8})\\S.*\\) \\{$").matcher(lines[i]);
@@ -130,7 +133,22 @@ public final class LanguageTest {
                     end++;
                 }
                 CHECKS.due("at most sixty lines: " + lines[i].trim(), end - i <= 60 ? 1 : 0, 1);
+                makesNothing(Arrays.copyOfRange(lines, i, end));
+                // A loop in a method of the outer class stands where a head of an inner one would.
+                i = end;
             }
+        }
+    }
+
+    /** Objects are made in constructors and field initialisers alone, so that no call makes one. */
+    private static void makesNothing(String[] method) {
+        String head = method[0].trim();
+        if (CONSTRUCTOR.matcher(head).find()) {
+            return;
+        }
+        for (String line : method) {
+            Matcher maker = MAKER.matcher(line.replaceAll("//.*", ""));
+            CHECKS.due("made in " + head, maker.find() ? maker.group() : "", "");
         }
     }
 }

@@ -14,6 +14,7 @@ public final class PromiseTest {
 
     public static void main(String[] args) {
         newObject();
+        neverRead();
         feed();
         read();
         faultsOfPlace();
@@ -86,28 +87,61 @@ public final class PromiseTest {
     private static void newObject() {
         NumberWords x = new NumberWords();
         for (int tongue = 0; tongue < 3; tongue++) {
-            due("new clauses", x.about(tongue, 0), 0);
-            due("new names", x.about(tongue, 1), 0);
-            due("new greatest", x.about(tongue, 2), NONE);
-            due("new least without", x.about(tongue, 3), 0);
-            due("new honest", x.about(tongue, 4), 0);
-            due("new name", x.name(tongue, 0, NONE), NONE);
-            due("new order", x.order(tongue, 0), NONE);
-            due("new place", x.place(tongue, 0), NONE);
-            due("new twins", x.twins(tongue, 0), NONE);
-            due("new twins 2", x.twins(tongue, 2), 0);
-            due("new squares", x.squares(tongue, 500), NONE);
-            due("new square", x.square(tongue, 500, 1, 3), 0);
-            due("new song", x.song(tongue, 0, 999), 0);
-            due("new mixed", x.mixed(tongue, 9, 0, 60), 0);
-            due("new chain", x.chain(tongue, 7, 0), 1);
-            due("new find", x.find(tongue, false, NONE), 0);
-            due("new led", x.led(tongue, 0, NONE), NOT);
+            dueWordless("new", x, tongue);
         }
         due("new text", x.about(0, 5), 0);
         due("new draft", x.about(0, 6), 0);
         due("new fault", x.fault(), NONE);
         due("new clear", x.clear(), 0);
+    }
+
+    /** A tongue that no text was read into has no words, whatever befell the others or was refused. */
+    private static void neverRead() {
+        NumberWords x = new NumberWords();
+        due("first tongue", Checks.readText(x, 0, EMPTY_OR_A), 1);
+        due("a fault in the second", Checks.readText(x, 1, UNITS + "?"), -11);
+        dueWordless("with a fault", x, 1);
+        dueWordless("beside one that was read", x, 2);
+        due("names of the first", x.about(0, 1), 1000);
+        due("an empty text in the first", Checks.readText(x, 0, ""), 0);
+        dueWordless("read again from an empty text", x, 0);
+    }
+
+    /** What every call answers of a tongue that has no words, THE DRAFT being empty. */
+    private static void dueWordless(String which, NumberWords x, int tongue) {
+        due(which + " clauses", x.about(tongue, 0), 0);
+        due(which + " names", x.about(tongue, 1), 0);
+        due(which + " greatest", x.about(tongue, 2), NONE);
+        due(which + " least without", x.about(tongue, 3), 0);
+        due(which + " honest ones", x.about(tongue, 4), 0);
+        for (int n = 0; n < 1000; n += 111) {
+            due(which + " name", x.name(tongue, n, NONE), NONE);
+            due(which + " byte of a name", x.name(tongue, n, 0), NONE);
+            due(which + " letters", x.letters(tongue, n), NONE);
+            due(which + " by", x.by(tongue, n), NONE);
+            due(which + " deep", x.deep(tongue, n), NONE);
+            due(which + " order", x.order(tongue, n), NONE);
+            due(which + " place", x.place(tongue, n), NONE);
+            due(which + " chain", x.chain(tongue, n, 0), 1);
+            due(which + " end of the chain", x.chain(tongue, n, 1), n);
+            due(which + " again in the chain", x.chain(tongue, n, 2), NONE);
+            due(which + " far", x.far(tongue, n, n), NONE);
+        }
+        due(which + " uses", x.uses(tongue, 0, 0, 999), 0);
+        due(which + " first", x.first(tongue, 0), NONE);
+        due(which + " song", x.song(tongue, 0, 999), 0);
+        due(which + " lesser twin", x.twins(tongue, 0), NONE);
+        due(which + " greater twin", x.twins(tongue, 1), NONE);
+        due(which + " twins", x.twins(tongue, 2), 0);
+        due(which + " find", x.find(tongue, false, NONE), 0);
+        due(which + " find of a run", x.find(tongue, true, 0), NONE);
+        due(which + " nearest", x.nearest(tongue, 0), NONE);
+        due(which + " nearest, how far", x.nearest(tongue, 1), NONE);
+        due(which + " led", x.led(tongue, tongue, NONE), NOT);
+        due(which + " honest", x.honest(tongue, 0), NONE);
+        due(which + " mixed", x.mixed(tongue, 9, 0, 60), 0);
+        due(which + " square", x.square(tongue, 500, 1, 3), 0);
+        due(which + " squares", x.squares(tongue, 500), NONE);
     }
 
     private static void feed() {
