@@ -29,6 +29,53 @@ final class Checks {
         }
     }
 
+    /** A new object with this text as its tongue 0; a fault of the text is a wrong answer. */
+    NumberWords told(String text) {
+        NumberWords x = new NumberWords();
+        int clauses = readText(x, 0, text);
+        due("fault of " + text, x.fault(), NumberWords.NONE);
+        due("clauses of " + text, x.about(0, 0), clauses);
+        return x;
+    }
+
+    /** The NAME of n by a text; "-" stands for none. */
+    void dueName(String text, int n, String name) {
+        due("name of " + n + " by " + text, nameText(told(text), 0, n), name);
+    }
+
+    /** The text is read whole, into a tongue that had a word of another text. */
+    void dueSound(String text, int clauses) {
+        NumberWords x = withOldWord();
+        feedWhole(x, text);
+        due("read of " + text, x.read(1), clauses);
+        due("fault of " + text, x.fault(), NumberWords.NONE);
+        due("clauses of " + text, x.about(1, 0), clauses);
+        due("text behind " + text, x.about(1, 5), 0);
+    }
+
+    /** The text has its first fault there, and the tongue is as it was. */
+    void dueFault(String text, int number, int place) {
+        NumberWords x = withOldWord();
+        feedWhole(x, text);
+        due("read of " + text, x.read(1), -10 - number);
+        due("fault of " + text, x.fault(), place);
+        due("clauses behind the fault of " + text, x.about(1, 0), 1);
+        due("names behind the fault of " + text, x.about(1, 1), 1);
+        due("the name behind the fault of " + text, nameText(x, 1, 3), "old");
+        due("text behind the fault of " + text, x.about(1, 5), 0);
+    }
+
+    private static NumberWords withOldWord() {
+        NumberWords x = new NumberWords();
+        readText(x, 1, "word 3 old;");
+        return x;
+    }
+
+    private void feedWhole(NumberWords x, String text) {
+        feedText(x, text);
+        due("bytes of " + text, x.about(1, 5), text.length());
+    }
+
     static void feedText(NumberWords x, String text) {
         for (int from = 0; from < text.length(); from += 8) {
             int end = Math.min(from + 8, text.length());

@@ -55,29 +55,19 @@ public final class PromiseTest {
     }
 
     private static NumberWords told(String text) {
-        NumberWords x = new NumberWords();
-        if (Checks.readText(x, 0, text) < 0) {
-            CHECKS.due("told " + text, x.fault(), NONE);
-        }
-        return x;
+        return CHECKS.told(text);
     }
 
     private static void dueName(String text, int n, String name) {
-        CHECKS.due("name of " + n + " by " + text, Checks.nameText(told(text), 0, n), name);
+        CHECKS.dueName(text, n, name);
     }
 
     private static void dueFault(String text, int number, int place) {
-        NumberWords x = new NumberWords();
-        due("read of " + text, Checks.readText(x, 1, text), -10 - number);
-        due("fault of " + text, x.fault(), place);
-        due("clauses behind the fault of " + text, x.about(1, 0), 0);
+        CHECKS.dueFault(text, number, place);
     }
 
     private static void dueSound(String text, int clauses) {
-        NumberWords x = new NumberWords();
-        due("read of " + text, Checks.readText(x, 1, text), clauses);
-        due("fault of " + text, x.fault(), NONE);
-        due("clauses of " + text, x.about(1, 0), clauses);
+        CHECKS.dueSound(text, clauses);
     }
 
     private static String times(String part, int count) {
