@@ -2,9 +2,13 @@ import java.util.Random;
 
 /** Runs of random calls on NumberWords and on the plain model: both must answer alike. */
 public final class ModelTest {
-    private static final int RUNS = 400;
+    private static final int RUNS = 500;
     private static final int CALLS = 120;
     private static final int WILD_CALLS = 20;
+    /** So many calls of an object are promised. */
+    private static final int MOST_CALLS = 512;
+    /** A wild call is up to six. */
+    private static final int WILD_MOST = 6 * WILD_CALLS;
     private static final int TEXTS = 60000;
     private static final int[] WILD = {
         Integer.MIN_VALUE, Integer.MIN_VALUE + 1, -1001, -1000, -999, -60, -2, -1, 0, 1, 2, 3, 7, 59, 60, 61,
@@ -22,6 +26,7 @@ public final class ModelTest {
     private final NumberWords x = new NumberWords();
     private final Model model = new Model();
     private final StringBuilder told = new StringBuilder();
+    private int calls;
 
     private ModelTest(long seed) {
         random = new Random(seed);
@@ -37,7 +42,12 @@ public final class ModelTest {
         CHECKS.end();
     }
 
+    private boolean hasCallsFor(int more) {
+        return calls + more <= MOST_CALLS;
+    }
+
     private void due(String call, int got, int want) {
+        calls++;
         told.append(call).append(' ');
         CHECKS.due(got == want ? call : told.toString(), got, want);
     }
@@ -57,16 +67,22 @@ public final class ModelTest {
             readBoth(tongue, text());
         }
         for (int i = 0; i < CALLS; i++) {
-            if (random.nextInt(40) == 0) {
+            // A text may be fed byte by byte; a draft is the name of a number with some bytes more.
+            if (random.nextInt(40) == 0 && hasCallsFor(240 + 2 + WILD_MOST)) {
                 readBoth(random.nextInt(3), random.nextInt(3) == 0 ? spoiled(text()) : text());
             }
-            if (random.nextInt(12) == 0) {
+            if (random.nextInt(12) == 0 && hasCallsFor(2 * 65 + WILD_MOST)) {
                 draftBoth();
             }
-            callBoth();
+            if (hasCallsFor(2 + WILD_MOST)) {
+                callBoth();
+            }
         }
         for (int i = 0; i < WILD_CALLS; i++) {
             wildBoth();
+        }
+        if (!hasCallsFor(0)) {
+            throw new IllegalStateException("more calls than are promised: " + calls);
         }
     }
 
@@ -173,6 +189,7 @@ public final class ModelTest {
             int n = random.nextInt(random.nextInt(2) == 0 ? 1000 : 20);
             size = model.name(tongue, n, -1);
             draft = size < 0 ? "" : Checks.nameText(x, tongue, n);
+            calls += size < 0 ? 0 : size + 1;
         }
         StringBuilder heard = new StringBuilder(draft);
         int times = random.nextInt(3) == 0 ? random.nextInt(5) : 0;
